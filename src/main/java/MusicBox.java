@@ -672,10 +672,12 @@ public final class MusicBox {
             Arrays.fill(plucked, 0);
         }
 
-        /** One tick; answers how many teeth it plucked. */
+        /** One tick; answers how many teeth it plucked: each costs one of the spring. */
         int turn() {
             for (int t = 0; t < teeth; t++) {
-                rings[t] = faded(kinds[t], rings[t]);
+                if (rings[t] > 0) {
+                    rings[t] = faded(kinds[t], rings[t]);
+                }
             }
             tick++;
             if (spring <= 0) {
@@ -683,7 +685,14 @@ public final class MusicBox {
             }
             column = columnBehind();
             spring--;
-            return pluckPinned();
+            int before = spring;
+            int toPluck = pinned[column] & ~broken;
+            for (int t = 0; t < teeth && spring > 0; t++) {
+                if ((toPluck >> t & 1) == 1) {
+                    pluck(t);
+                }
+            }
+            return before - spring;
         }
 
         private static int faded(int kind, int ring) {
@@ -693,18 +702,6 @@ public final class MusicBox {
                 case CRACKED: return ring / 2;
                 default: return Math.max(0, ring - 2);
             }
-        }
-
-        /** Each pluck costs one of the spring, so what it lost is how many there were. */
-        private int pluckPinned() {
-            int before = spring;
-            int pins = pinned[column];
-            for (int t = 0; t < teeth && spring > 0; t++) {
-                if ((pins >> t & 1) == 1 && !isBroken(t)) {
-                    pluck(t);
-                }
-            }
-            return before - spring;
         }
 
         private void pluck(int tooth) {
@@ -734,8 +731,8 @@ public final class MusicBox {
         }
 
         private void stir(int tooth, int ring) {
-            if (tooth < teeth && !isBroken(tooth)) {
-                rings[tooth] = Math.max(rings[tooth], ring);
+            if (tooth < teeth && (broken >> tooth & 1) == 0 && rings[tooth] < ring) {
+                rings[tooth] = ring;
             }
         }
 

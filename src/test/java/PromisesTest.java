@@ -481,6 +481,7 @@ public final class PromisesTest {
     for (int n = 1; n <= 12; n++) {
       c.due("19 heard(" + n + ", 0)", x.heard(n, 0), PLAIN_LOUD[n - 1]);
     }
+    c.due("19 now", x.heard(0, 3), 20);
     c.due("19 the drum stands with the spring down", x.heard(60, 2), 3);
     c.due("19 n", x.heard(61, 0), BAD);
     c.due("19 what", x.heard(0, 4), BAD);
@@ -538,6 +539,7 @@ public final class PromisesTest {
     String all = "m0,0;p63;p63;p63;p63;s1;s1;s1;s1;s1;s1;";
     c.due("24 seven for each and one", of(all).least(14), 99);
     c.due("24 not even 99", of(all).least(15), NONE);
+    c.due("24 one tick", of("m50,0;p0;p0;p0;p0;s1;").least(1), 2);
     c.due("24 it breaks: 2 2 2 1", of("m0,0;p1;p1;p1;p1;c9;").least(4), 8);
     c.due("24 n", x.least(41), BAD);
     c.due("24 n 0", x.least(0), BAD);
@@ -609,6 +611,10 @@ public final class PromisesTest {
     c.due("27 n", x.share(0, 1000), BAD);
     c.due("27 n below 0", x.share(0, -1), BAD);
     c.due("27 tooth", x.share(4, 1), BAD);
+    x = of("m90,0;p0;p2;p0;p0;s1;s1;");
+    x.ticks(1);
+    c.due("27 one pluck in all", x.share(1, 7), 7);
+    c.due("27 one that was not plucked gets none", x.share(0, 7), 0);
     x = of("m90,3;p1;p1;p3;p2;c1;s1;");
     x.ticks(4);
     c.due("27 a broken one gets none", x.share(0, 9), 0);
