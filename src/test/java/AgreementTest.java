@@ -7,9 +7,9 @@ import java.util.Comparator;
 import java.util.List;
 import java.util.Random;
 
-/** Runs of drawn calls, each answer held against that of PlainBox. */
+/** Runs of drawn calls (fewer than 512 of an object), each answer held against that of PlainBox. */
 public final class AgreementTest {
-  private static final int RUNS = 1500;
+  private static final int RUNS = 3000, PARTS = 2;
   private static final String SORTS = "sdtrc";
 
   private final Checks checks = new Checks();
@@ -49,7 +49,7 @@ public final class AgreementTest {
     if (random.nextInt(10) == 0) {
       drawnCalls(30);
     }
-    for (int part = 0; part < 4; part++) {
+    for (int part = 0; part < PARTS; part++) {
       readText();
       if (random.nextBoolean()) {
         hearIntoRow();

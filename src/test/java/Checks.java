@@ -2,12 +2,30 @@
 final class Checks {
   private int asked;
   private int wrong;
+  private int asKnown = -1;
+  private String sentence = "";
+
+  /** The answers that follow are due by this sentence, which stands in the document word by word. */
+  void says(String words) {
+    endSentence();
+    sentence = words;
+    holds("the document says this", Doc.has(words));
+    asKnown = asked;
+  }
+
+  /** A sentence without an answer of its own would be no test. */
+  private void endSentence() {
+    if (asked == asKnown) {
+      holds("an answer is due by this", false);
+    }
+    asKnown = -1;
+  }
 
   void due(String call, long got, long want) {
     asked++;
     if (got != want) {
       wrong++;
-      System.out.println(call + " answered " + got + ", due is " + want);
+      System.out.println(call + " answered " + got + ", due is " + want + (sentence.isEmpty() ? "" : ", by: " + sentence));
     }
   }
 
@@ -20,6 +38,7 @@ final class Checks {
   }
 
   void end() {
+    endSentence();
     System.out.println(asked + " answers, " + wrong + " of them not as due");
     if (wrong != 0 || asked == 0) {
       System.exit(1);
