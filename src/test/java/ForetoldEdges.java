@@ -129,6 +129,9 @@ final class ForetoldEdges {
     x = of("m2,3;p3;p0;p0;p0;d1;d9;");
     c.due("drawn, so that the spring does for the other", x.bestPin(1, 0), 0);
     c.due("9", x.bestPin(1, 1), 9);
+    x = of("m99,0;p1;p1;p1;p1;s9;");
+    c.due("nothing set, nothing drawn would be 72, but is no pin", x.bestPin(4, 0), 0);
+    c.due("18 18 18 16", x.bestPin(4, 1), 70);
     x = of("m3,0;p0;p0;p62;p0;s9;");
     c.due("a tooth that there is not is not asked for", x.bestPin(2, 0), 10);
     c.due("18 16", x.bestPin(2, 1), 34);
@@ -256,6 +259,12 @@ final class ForetoldEdges {
     }
   }
 
+  private static MusicBox onePluck() {
+    MusicBox x = of("m99,0;p0;p2;p0;p0;s1;s1;");
+    x.ticks(1);
+    return x;
+  }
+
   private void shares() {
     c.says("each TOOTH that is not BROKEN gets as many as n times PLUCKED by all PLUCKED of these (cut), "
         + "what is over 1 each to the first ones that were PLUCKED");
@@ -272,6 +281,8 @@ final class ForetoldEdges {
     x = of("m99,0;p0;p63;p32;p0;" + SIX);
     x.ticks(2);
     share(x, 6, 1, 1, 1, 1, 1, 1);
+    share(onePluck(), 999, 0, 999);
+    share(onePluck(), 1, 0, 1);
     share(x, 999, 143, 143, 143, 143, 142, 285);
     c.says("how many a TOOTH gets (0, if it is BROKEN, or none was).");
     x = of("m99,0;p3;p3;p3;p3;c1;s1;");
@@ -311,7 +322,12 @@ final class ForetoldEdges {
     for (int n = 0; n <= 4; n++) {
       c.due("byTurns(" + n + ", 2)", x.byTurns(n, 2), due[n]);
     }
-    // it must be wound twice, so that the reed is plucked
+    // by 2 the spring does not do for the reed, by 4 it does
+    x = of("m2,0;p0;p1;p0;p2;t9;r1;");
+    int[] twice = {14 + 7, 14 + 7, 14 + 7, 14 + 7, 14 + 1};
+    for (int n = 0; n <= 4; n++) {
+      c.due("byTurns(" + n + ", 3)", x.byTurns(n, 3), twice[n]);
+    }
     x = of("m2,0;p0;p1;p0;p0;p2;t9;r1;");
     int[] both = {12 + 6, 12 + 6, 12 + 6, 12 + 6, 12 + 1};
     for (int n = 0; n <= 4; n++) {
@@ -410,6 +426,8 @@ final class ForetoldEdges {
     chance(x, 12, 0, 1, 1);
     chance(x, 20, 5, 4095, 4096);
     chance(of("m99,0;p0;p1;p0;p0;d5;"), 17, 3, 7, 10);
+    chance(of("m3,0;p0;p1;p0;p0;r1;"), 1, 5, 1, 2);
+    chance(of("m3,0;p0;p1;p0;p0;r1;"), 2, 5, 0, 1);
     chance(of("m99,0;p0;p1;p0;p0;d5;"), 20, 3, 0, 1);
     // kept, the first takes the spring that the second needs: 3 of 10 times 7 of 10
     chance(of("m4,0;p0;p1;p1;p0;d5;"), 2, 3, 7, 10);

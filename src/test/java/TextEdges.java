@@ -34,6 +34,16 @@ final class TextEdges {
     c.due("box() of " + text, Checks.read(x, text), -1000100 - place);
     c.due("fault() of " + text, x.fault(), number);
     c.due("no box by " + text, x.stand(0), STATE);
+    faultBehindABox(text, place, number);
+  }
+
+  /** What was read before must not do for what is missing in this text. */
+  private void faultBehindABox(String text, int place, int number) {
+    MusicBox x = Checks.boxOf("m8,1;" + TWELVE + SIX);
+    c.due("box() behind another, of " + text, Checks.read(x, text), -1000100 - place);
+    c.due("fault() behind another, of " + text, x.fault(), number);
+    c.due("the other stays: SPRING, behind " + text, x.stand(2), 8);
+    c.due("the other stays: COLUMNS, behind " + text, x.stand(0), 12);
   }
 
   // ---- the tape
